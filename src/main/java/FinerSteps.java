@@ -869,8 +869,11 @@ public final class FinerSteps {
                 glued.clear();
                 machine.spread(state, scene, 0);
                 for (int other = 0; other < ahead.states; other++) {
+                    if (!ahead.sound[other]) {
+                        continue;
+                    }
                     ahead.spread(other, scene, AHEAD_SLOT);
-                    if (ahead.sound[other] && lawsHold(machine)) {
+                    if (lawsHold(machine)) {
                         glued.put(other);
                     }
                 }
