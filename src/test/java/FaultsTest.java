@@ -34,6 +34,7 @@ public final class FaultsTest {
         many();
         lacks();
         leastOfOnePlace();
+        fullTapes();
         Kit.end();
     }
 
@@ -228,5 +229,18 @@ public final class FaultsTest {
         fault(2, "machine a;var x from 0 to 9 at 0;var y from 0 to 9 at 0;var z from 0 to ^10 at 9");
         fault(2, A + ";event e any 0 to ^100 when n < 1 do n = 1");
         fault(1, "machine a;^machineb");
+    }
+
+    /** 600 bytes, each a token of its own, or all one. */
+    private static void fullTapes() {
+        for (String sign : new String[] {";", ",", "=", "<", ">", "+", "-", "*", "(", ")", "[", "]", "a", "1", "?"}) {
+            fault(1, "^" + times(sign, 600));
+        }
+        fault(1, A + ";law n*^" + times("*", 600 - A.length() - 7));
+        fault(4, A + ";law " + times("(", 8) + "^" + times("(", 600 - A.length() - 13));
+        fault(4, A + ";law " + times("[", 8) + "^" + times("[", 600 - A.length() - 13));
+        fault(1, A + times(" ", 600 - A.length() - 1) + ";^");
+        fine(1, A + times(" ", 600 - A.length()));
+        fine(1, A + ";law " + times("not ", 8) + "n<1" + times(" or " + times("not ", 8) + "n<1", 12));
     }
 }

@@ -343,6 +343,15 @@ public final class PromisesTest {
         dueCase(y, 1, 1, 2, 0, 3, 0);
         FinerSteps z = Kit.of("machine a;var n from 0 to 3 at 0;variant 0 - n;event up when n < 3 do n = n + 1");
         dueHolds(z, 0, 0, 2);
+        // what earlier texts left may not stand in for a variant
+        String down = "machine a;var n from 0 to 3 at 0;machine b;var x from 0 to 3 at 3;event down when x > 0 do x = x - 1";
+        Kit.tell(z, down + ";variant x");
+        dueHolds(z, 1, 0, 2);
+        Kit.tell(z, down + ";variant x");
+        Kit.tell(z, down);
+        dueCase(z, 1, 0, 2, 0, 1, 0);
+        Kit.due("cases(1, 0, 2) without a variant", z.cases(1, 0, 2), 12);
+        Kit.due(z, "variant(1, 3) without one", z.variant(1, 3), 0, 5);
     }
 
     private static void beginsAndGoesOn() { // promise 16: BEGINS, GOES ON
