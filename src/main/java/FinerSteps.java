@@ -704,7 +704,7 @@ public final class FinerSteps {
                 case 3:
                     return states;
                 case 4:
-                    return stateOf(at, 0);
+                    return beginState();
                 case 5:
                     return variantCode == NONE ? 0 : 1;
                 case 6:
@@ -714,6 +714,11 @@ public final class FinerSteps {
                 default:
                     return countNew();
             }
+        }
+
+        /** Each AT lies within its bounds, so there is always such a state. */
+        int beginState() {
+            return Math.max(0, stateOf(at, 0));
         }
 
         private int countNew() {
@@ -1559,9 +1564,9 @@ public final class FinerSteps {
         }
 
         private void judgeBegin() {
-            int begin = machine.told(4);
-            int ahead = number > 0 ? model.machines[number - 1].told(4) : 0;
-            if (begin < 0 || ahead < 0 || !paired(ahead, begin)) {
+            int begin = machine.beginState();
+            int ahead = number > 0 ? model.machines[number - 1].beginState() : 0;
+            if (!paired(ahead, begin)) {
                 verdict.note(ahead, begin, 0);
             }
         }
@@ -1653,11 +1658,11 @@ public final class FinerSteps {
 
         void begin(Model model, int m) {
             number = m;
-            state = model.machines[m].told(4);
+            state = model.machines[m].beginState();
             made = 0;
             near.clear();
             if (m > 0) {
-                near.put(model.machines[m - 1].told(4));
+                near.put(model.machines[m - 1].beginState());
                 near.keepOnly(model.machines[m].glue[state]);
             }
         }
@@ -1733,7 +1738,7 @@ public final class FinerSteps {
         void explore(Machine machine) {
             Arrays.fill(far, ABSENT);
             found = 0;
-            reachState(machine.told(4), 0);
+            reachState(machine.beginState(), 0);
             for (int i = 0; i < MOST_STATES && i < found; i++) {
                 int state = queue[i];
                 for (int e = 0; e < machine.events; e++) {
