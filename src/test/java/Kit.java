@@ -44,6 +44,28 @@ final class Kit {
         return x;
     }
 
+    /** A text with a fault at the place that a ^ marks in it. */
+    static void fault(int number, String marked) {
+        int place = marked.indexOf('^');
+        String text = marked.substring(0, place) + marked.substring(place + 1);
+        FinerSteps x = new FinerSteps();
+        due("machines of " + text, tell(x, text), -1);
+        due("trouble() of " + text, x.trouble(), 4);
+        due("fault() of " + text, x.fault(), number);
+        due("where() of " + text, x.where(), place);
+        due("size() of " + text, x.size(), 0);
+        due("machine(0, 0) of " + text, x.machine(0, 0), -1);
+        due("where() later of " + text, x.where(), -1);
+        due("fault() later of " + text, x.fault(), number);
+    }
+
+    /** A text without one. */
+    static void fine(int machines, String text) {
+        FinerSteps x = new FinerSteps();
+        due("machines of " + text, tell(x, text), machines);
+        due("fault() of " + text + " at " + x.where(), x.fault(), 0);
+    }
+
     static void dueNoLetter(FinerSteps x, int m, int v, int k) {
         int thrown = 0;
         try {
