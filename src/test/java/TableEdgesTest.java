@@ -40,6 +40,8 @@ public final class TableEdgesTest {
         testsOfWrappedSums();
         signsAtEqual();
         fromTheLeftOn();
+        behindWhatWaits();
+        deepestAndLongest();
         variantOfNone();
         variantBelowZero();
         variantWrapsAround();
@@ -467,6 +469,37 @@ public final class TableEdgesTest {
         Kit.due("and of three", holds("1 = 1 and 1 = 0 and 1 = 1") ? 1 : 0, 0);
         Kit.due("or of three", holds("1 = 0 or 1 = 1 or 1 = 0") ? 1 : 0, 1);
         Kit.due("or of ands", holds("1 = 0 and 1 = 1 or 1 = 1 and 1 = 0 or 1 = 0") ? 1 : 0, 0);
+    }
+
+    private static void behindWhatWaits() { // not, ( and [ behind and, or, a sign: what waits ahead of them stays as it is
+        String[] ahead = {"1 = 0 and ", "1 = 1 and ", "1 = 0 or ", "1 = 1 or ", "1 = 0 or 1 = 1 and ", "1 = 1 or 1 = 0 and "};
+        boolean[] byTrue = {false, true, true, true, true, true};
+        boolean[] byFalse = {false, false, false, true, false, true};
+        String[] holding = {"not 1 = 0", "(1 = 1)", "not (1 = 0)", "(not 1 = 0)", "(1 = 1 or 1 = 0)", "(1 = 0 or 1 = 1)",
+            "(1 = 1 and 1 = 1)", "not not 1 = 1", "not (1 = 0 or 1 = 0)", "([1] = [2 - 1])", "((1 = 1) and (not 1 = 0))"};
+        for (int i = 0; i < ahead.length; i++) {
+            for (String fact : holding) {
+                Kit.due(ahead[i] + fact, holds(ahead[i] + fact) ? 1 : 0, byTrue[i] ? 1 : 0);
+                Kit.due(ahead[i] + "not " + fact, holds(ahead[i] + "not " + fact) ? 1 : 0, byFalse[i] ? 1 : 0);
+            }
+        }
+        Kit.due("3 + 2 * [n - [1 + 1]] - 4", variantOf("3 + 2 * [n - [1 + 1]] - 4"), 9);
+        Kit.due("a sign behind a sum", holds("1 + 2 * [n - 1] < 2 * [n - 1] + 2") ? 1 : 0, 1);
+        Kit.due("a sign behind a sum", holds("1 + 2 * [n - 1] > 2 * [n - 1] + 1") ? 1 : 0, 0);
+    }
+
+    private static void deepestAndLongest() { // eight open at once, each with what waits ahead of it; thirty atoms
+        String deep = "1 - [1 - [1 - [1 - [1 - [1 - [1 - [1 - [n * 2]]]]]]]]";
+        Kit.due(deep, variantOf(deep), 14);
+        String product = "2 + 1 * [2 + 1 * [2 + 1 * [2 + 1 * [2 + 1 * [2 + 1 * [2 + 1 * [n]]]]]]]";
+        Kit.due(product, variantOf(product), 21);
+        String test = "1=0 or 1=1 and(".repeat(6) + "1=0 or n=7" + ")".repeat(6);
+        Kit.due(test, holds(test) ? 1 : 0, 1);
+        test = "1=0 or 1=1 and(".repeat(6) + "1=0 or n=6" + ")".repeat(6);
+        Kit.due(test, holds(test) ? 1 : 0, 0);
+        Kit.due("thirty less from the left", variantOf("n" + "-1".repeat(29)), -22);
+        Kit.due("fifteen facts, the last alone holds", holds("1=0 or ".repeat(14) + "n=7") ? 1 : 0, 1);
+        Kit.due("fifteen facts, the last alone fails", holds("1=1 and ".repeat(14) + "n=6") ? 1 : 0, 0);
     }
 
     private static void variantOfNone() { // promise 15: 1 is told ahead of 5; it answers 0
